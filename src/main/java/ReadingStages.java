@@ -434,7 +434,7 @@ public final class ReadingStages {
     private int waysToKeep(int places, int c) {
         reading.begin(now);
         int ways = 0;
-        for (int taken = 0; taken < 1 << now.n; taken++) {
+        for (int taken = 0; taken < (1 << now.n); taken++) {
             if ((taken & ~places) == 0 && reading.keepsWordMetAt(taken)) {
                 int met = Integer.bitCount(taken);
                 int missed = Integer.bitCount(places) - met;
@@ -489,7 +489,7 @@ public final class ReadingStages {
     }
 
     private static boolean hasBit(int set, int bit) {
-        return (set >> bit & 1) != 0;
+        return ((set >> bit) & 1) != 0;
     }
 
     private static int power(int base, int exponent) {
@@ -537,7 +537,7 @@ public final class ReadingStages {
         }
 
         void goOn() {
-            draw = draw * 1103515245 + 12345 & LOWEST_31_BITS;
+            draw = (draw * 1103515245 + 12345) & LOWEST_31_BITS;
         }
 
         /** PLACES have the same numbers as BOOKS. */
@@ -599,9 +599,9 @@ public final class ReadingStages {
         }
 
         private static int withoutBit(int set, int bit) {
-            int below = set & (1 << bit) - 1;
-            int above = set >> bit + 1;
-            return below | above << bit;
+            int below = set & ((1 << bit) - 1);
+            int above = set >> (bit + 1);
+            return below | (above << bit);
         }
 
         int turnAhead(int a, int b) {
@@ -823,7 +823,7 @@ public final class ReadingStages {
         private static int factor(int rule, int m) {
             switch (rule) {
                 case GROWING: return m;
-                case DOUBLING: return 1 << m - 1;
+                case DOUBLING: return 1 << (m - 1);
                 default: return 1;
             }
         }
@@ -846,7 +846,7 @@ public final class ReadingStages {
             int carry = set & ones[p];
             int one = ones[p] ^ set;
             int two = twos[p] ^ carry;
-            int four = fours[p] ^ carry & twos[p];
+            int four = fours[p] ^ (carry & twos[p]);
             for (int q = p; q < places; q++) {
                 due[p + 1][q] = due[p][q] & ~set;
             }
@@ -869,15 +869,15 @@ public final class ReadingStages {
         }
 
         int strengthBehindAll(int w) {
-            int one = ones[places] >> w & 1;
-            int two = twos[places] >> w & 1;
-            int four = fours[places] >> w & 1;
+            int one = (ones[places] >> w) & 1;
+            int two = (twos[places] >> w) & 1;
+            int four = (fours[places] >> w) & 1;
             return one + 2 * two + 4 * four;
         }
 
         boolean keepsWordMetAt(int met) {
             for (int p = 0; p < places; p++) {
-                step(p, met >> p & 1);
+                step(p, (met >> p) & 1);
             }
             return knownAhead(places) != 0;
         }
@@ -1172,7 +1172,7 @@ public final class ReadingStages {
             next();
             int set = 0;
             while (at < tape.size && tape.at(at) >= 'a' && tape.at(at) < 'a' + WORDS) {
-                set |= 1 << tape.at(at) - 'a';
+                set |= 1 << (tape.at(at) - 'a');
                 at++;
             }
             return draft.addBook(set) >= 0;

@@ -29,7 +29,9 @@ public final class PromisesTest {
         readTexts();
         readFaults();
         drift();
+        driftByCalls();
         undo();
+        undoOfEach();
         seed();
         image();
         seen();
@@ -566,7 +568,7 @@ public final class PromisesTest {
     private static void readFaults() {
         d.part("promise 20, faults");
         String[] texts = {
-            "", "  ", "5", "stead2:a", "  stead2:a", "steadyx2:a", "Steady2:a", "stea dy2:a", "steady", "steady ",
+            "", "  ", "5", "stead2:a", "  stead2:a", "steadyz2:a", "Steady2:a", "stea dy2:a", "steady", "steady ",
             "steady0:a", "steady5:a", "steadyX2:a", "steady22:a", "steady2", "steady2a", "steady2 :", "steady2:  ",
             "steady2:,", "steady2:u", "steady2:au", "steady2:a1", "steady2:a b", "steady2:a,", "steady2:a,;",
             "steady2:a,b,c,d,e,f,g,h", "steady2:a,b,c,d,e,f,g, ", "steady2:a,b,c,d,e,f,g,1", "steady2:a;",
@@ -625,6 +627,95 @@ public final class PromisesTest {
             d.due("count(" + what + ")", x.count(what), y.count(what));
         }
         d.due("THE DRAW", x.seed(0), y.seed(0));
+    }
+
+    /** All that may be undone, as a text. */
+    private static String everything(ReadingStages x) {
+        StringBuilder t = new StringBuilder();
+        for (int what = 0; what < 10; what++) {
+            t.append(x.count(what)).append(' ');
+        }
+        for (int k = 0; k < 7; k++) {
+            t.append(x.told(k, 0)).append(' ').append(x.told(k, 1)).append(' ').append(x.told(k, 2)).append(' ');
+        }
+        int draw = x.seed(0);
+        x.seed(draw);
+        return t.append(draw).toString();
+    }
+
+    private static void driftByCalls() {
+        d.part("promise 21, by calls");
+        for (int seed = 0; seed < 40; seed++) {
+            ReadingStages x = new ReadingStages();
+            ReadingStages y = new ReadingStages();
+            x.seed(seed);
+            long draw = seed;
+            for (int i = 0; i < 40; i++) {
+                draw = (draw * 1103515245L + 12345L) % (1L << 31);
+                int v = (int) (draw / 65536);
+                draw = (draw * 1103515245L + 12345L) % (1L << 31);
+                int s = (int) (draw / 2048) % 1048576;
+                switch (v % 8) {
+                    case 0: case 1: y.book(s); break;
+                    case 2: y.words(v / 8 % 7, s); break;
+                    case 3: y.ahead(v / 8 % 7, v / 64 % 7); break;
+                    case 4: case 5: y.move(v / 8 % 7, v / 64 % 7); break;
+                    case 6: y.tell(0, v / 8 % 4 + 1); break;
+                    default: y.tell(2, v / 8 % 3); break;
+                }
+            }
+            d.due("drift(40)", x.drift(40), y.count(0));
+            y.seed((int) draw);
+            d.holds("seed " + seed + ": as by calls", everything(x).equals(everything(y)));
+        }
+    }
+
+    private static int change(ReadingStages x, int kind) {
+        switch (kind) {
+            case 0: return x.book(9);
+            case 1: return x.words(1, 9);
+            case 2: return x.lose(0);
+            case 3: return x.ahead(2, 0);
+            case 4: return x.ahead(0, 1);
+            case 5: return x.prior(2);
+            case 6: return x.tell(0, 1);
+            case 7: return x.tell(1, 1);
+            case 8: return x.tell(2, 1);
+            case 9: return x.move(2, 0);
+            case 10: return x.settle(0);
+            case 11: return x.settle(1);
+            case 12: return read(x, "doubling3:a,b,c;01");
+            default: return x.drift(1);
+        }
+    }
+
+    private static void undoOfEach() {
+        d.part("promises 22, 24, of each change");
+        for (int first = 0; first < 14; first++) {
+            for (int second = 0; second < 14; second++) {
+                ReadingStages x = withBooks("abc", "ab", "c", "d");
+                x.ahead(0, 1);
+                x.seed(6);
+                String start = everything(x);
+                if (change(x, first) < 0) {
+                    continue;
+                }
+                String between = everything(x);
+                d.holds("change " + first, !between.equals(start));
+                d.due("count(10)", x.count(10), 6);
+                x.seed(12345);
+                x.image();
+                if (change(x, second) >= 0) {
+                    d.due("undo()", x.undo(), 5);
+                }
+                x.seed(6);
+                d.holds("undo of " + second + " behind " + first, first > 12 || everything(x).equals(between));
+                x.drift(9);
+                x.restore();
+                d.due("restore(), undo()", x.undo(), 5);
+                d.holds("undo of " + first, everything(x).equals(start));
+            }
+        }
     }
 
     private static void undo() {
@@ -809,6 +900,9 @@ public final class PromisesTest {
         d.due("seen(3,3,23)", x.seen(3, 3, 23), 1);
         d.due("sheet(3,3,24)", x.sheet(3, 3, 24), 24);
         d.due("a new row", x.seen(3, 3, 23), 0);
+        x.item(3, 3, 0, 1);
+        d.due("sheet(3,3,24)", x.sheet(3, 3, 24), 24);
+        d.due("a new row from item 0 on", x.seen(3, 3, 0), 0);
         x.item(3, 3, 0, 1);
         d.due("sheet(3,3,-1)", x.sheet(3, 3, -1), SIZE);
         d.due("the row stays", x.seen(3, 3, 0), 1);
