@@ -223,7 +223,9 @@ public final class BoundsOfBooksTest {
         b.run(often, "word(19,0)=0 word(19,1)=1 word(19,2)=4 word(19,3)=3 word(19,4)=4 word(0,0)=1 word(0,2)=3 word(0,3)=3"
             + " word(0,1)=0");
         b.run(Given.times(7, "book(524288)"), "word(19,0)=0 word(19,1)=7 word(19,2)=1 word(19,3)=0 word(19,4)=7");
-        b.run(SEVEN, "word(6,0)=6 word(6,1)=1");
+        b.run(SEVEN, "word(6,0)=6 word(6,1)=1 word(7,0)=NONE word(7,2)=0");
+        // What a lost BOOK brought is not brought any longer.
+        b.run(SEVEN, "word(6,0)=6 word(4,3)=1 lose(6)=6 word(6,0)=NONE word(6,1)=0 word(6,2)=0 word(6,4)=0 word(4,3)=0");
 
         b.at("Promise 11", "BAD.");
         b.refused(NEW, "word(20,0)=BAD word(-1,0)=BAD");

@@ -1,10 +1,6 @@
 /** The boundary cases of promises 19 to 25: what is done. */
 public final class BoundsOfDeedsTest {
     private static final String NEW = Given.NEW, RICH = Given.RICH, THREE = Given.THREE;
-    /** Each way to change what may be undone, behind THREE. */
-    private static final String[] CHANGES = {"book(1)", "words(0,1)", "lose(0)", "lose(2)", "ahead(0,1)", "ahead(2,0)",
-        "prior(1)", "tell(0,1)", "tell(1,0)", "tell(2,2)", "move(0,2)", "move(2,0)", "move(0,1) settle(0)",
-        "settle(1)", "text[growing1:t] read()", "drift(1)"};
     private static final Bounds b = new Bounds();
 
     public static void main(String[] args) {
@@ -91,9 +87,8 @@ public final class BoundsOfDeedsTest {
 
     private static void undo() {
         b.at("Promise 22", "UNDONE: how many more may be.");
-        for (String change : CHANGES) {
-            String last = change.startsWith("move(0,1) ") ? "move(0,1)" : "";
-            b.same(THREE + " " + change + " undo()", THREE + " " + last);
+        for (String change : Given.CHANGES) {
+            b.same(THREE + " " + change + " undo()", THREE);
         }
         b.run("book(1) book(2)", "undo()=1 count(0)=1 undo()=0 count(0)=0 undo()=NONE");
         b.run(Given.times(7, "book(1)"), "undo()=5 undo()=4 undo()=3 undo()=2 undo()=1 undo()=0 count(0)=1");
@@ -120,14 +115,15 @@ public final class BoundsOfDeedsTest {
     private static void image() {
         b.at("Promise 24", "All but SHEETS, THE TAPE is kept as an IMAGE: 1.");
         b.run(NEW, "image()=1 image()=1 count(10)=0");
-        for (String change : CHANGES) {
+        for (String change : Given.CHANGES) {
             b.same(THREE + " " + change + " image() restore()", THREE + " " + change + " image()");
             b.same(THREE + " image() " + change + " restore()", THREE + " image()");
         }
         String sheets = " sheet(1,1,2) item(1,1,0,3) drop(0) text[,d]";
         b.same(RICH + " image() lose(0) settle(0) seed(1) undo() drift(9)" + sheets + " restore()", RICH + " image()" + sheets);
         // Six known ones are kept with it, and none that came later.
-        b.run(Given.times(7, "book(1)") + "image() undo() undo() lose(0)", "restore()=1 count(10)=6 count(0)=7 undo()=5 count(0)=6");
+        b.run(Given.times(7, "book(1)") + "image() undo() undo() lose(0)", "restore()=1 count(10)=6 count(0)=7 undo()=5"
+            + " count(0)=6");
         // The latest one counts.
         b.run("book(1) image() book(2) image() lose(0)", "restore()=1 count(0)=2 told(0,0)=1 told(1,0)=2");
         b.run("image() book(1)", "restore()=1 count(0)=0 count(10)=0 undo()=NONE");

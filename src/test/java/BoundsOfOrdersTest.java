@@ -20,6 +20,8 @@ public final class BoundsOfOrdersTest {
         // One word a book, SPAN 2: all but the last two words are lost in each order; 6 must come ahead of 0.
         b.run(SEVEN, "best(0)=1234560 best(1)=1 best(2)=5 best(3)=1234560 best(4)=1 best(5)=5");
         b.run("book(1) book(2) book(4) book(1)", "best(0)=132 best(1)=1 best(2)=1 best(3)=312 best(4)=1 best(5)=1");
+        // abd, d, c by SPAN 1: GROWN takes d, then c (one new word instead of two), so that d is lost; BEST c, d, then abd.
+        b.run("book(11) book(8) book(4) tell(0,1)", "best(0)=210 best(1)=2 best(2)=1 best(3)=120 best(4)=3 best(5)=2");
         // BOUND is no bound of BEST; one order alone HOLDS.
         b.run("book(1) book(1023) ahead(1,0) tell(1,0)", "best(0)=10 best(1)=10 best(2)=0 best(3)=10 best(4)=10 best(5)=0");
         // PEAK counts more than LOSS, LOSS more than the number: 021 loses one word, 012 both.
@@ -42,6 +44,11 @@ public final class BoundsOfOrdersTest {
         // Those that begin with 0 bring 3 at once: 4 of 6 bring at most 2.
         b.run("book(7) book(1) book(10)", "many(0)=6 many(1)=6 tell(1,3)=5 many(1)=6 tell(1,2)=3 many(1)=4 tell(1,1)=2 many(1)=0");
         b.run(RICH, "many(0)=6 many(1)=6 prior(ALL)=8 tell(1,0)=4 many(1)=6");
+
+        // Whatever was asked ahead of it, it is not of the rows of seen, or of what FITS.
+        b.run("book(7) book(1) book(10) sheet(0,0,3) item(0,0,0,3)", "seen(0,0,0)=0 many(0)=6 tell(1,2)=5 many(1)=4 many(0)=6"
+            + " fit(9)=NONE"
+            + " many(0)=6 best(0)=102 many(1)=4");
 
         b.at("Promise 15", "BAD.");
         b.refused(NEW, "many(-1)=BAD many(2)=BAD");

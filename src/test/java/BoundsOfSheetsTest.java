@@ -34,7 +34,8 @@ public final class BoundsOfSheetsTest {
             String given = BOOKS + row(0, lane, 99, 1, 2, 1, -7, 2, 2, 0);
             b.run(given, in(lane, "seen(0,L,1)=2 seen(0,L,5)=1 seen(0,L,0)=NOT seen(0,L,2)=NOT"));
             b.run(BOOKS + row(3, lane, 3, 0, 1), in(lane, "seen(3,L,0)=1 lose(2)=2 seen(3,L,0)=1 seen(3,L,1)=0"));
-            b.run("book(ALL)" + row(3, lane, 20, 0), in(lane, "seen(3,L,0)=1 seen(3,L,1)=0 prior(ALL)=0 seen(3,L,1)=1 seen(3,L,0)=0"));
+            b.run("book(ALL)" + row(3, lane, 20, 0), in(lane, "seen(3,L,0)=1 seen(3,L,1)=0 prior(ALL)=0 seen(3,L,1)=1"
+                + " seen(3,L,0)=0"));
             b.run(SEVEN + row(3, lane, new long[24]), in(lane, "seen(3,L,0)=0 seen(3,L,17)=0 prior(127)=0 seen(3,L,17)=5040"));
         }
         b.same(RICH + " seen(2,2,0)", RICH);
@@ -160,7 +161,8 @@ public final class BoundsOfSheetsTest {
         int[] width = {8, 16, 32, 64};
         for (int lane = 0; lane < 4; lane++) {
             b.same(row(1, lane, 5, 6, 7) + in(lane, " item(1,L,0,1) item(1,L,2,20)"), row(1, lane, 1, 6, 20));
-            b.run(row(1, lane, new long[24]), in(lane, "item(1,L,0,1)=1 item(1,L,23,1)=1 item(1,L,23,LEAST)=1 item(1,L,0,LONGEST)=1"));
+            b.run(row(1, lane, new long[24]), in(lane, "item(1,L,0,1)=1 item(1,L,23,1)=1 item(1,L,23,LEAST)=1"
+                + " item(1,L,0,LONGEST)=1"));
             for (int bit = 7; bit < 64; bit++) {
                 String seen = bit < width[lane] ? "seen(0,L,0)=NOT" : "seen(0,L,0)=1";
                 b.run("book(31)" + row(0, lane, (1L << bit) + 5), in(lane, seen));
@@ -190,7 +192,8 @@ public final class BoundsOfSheetsTest {
     }
 
     private static void copy() {
-        b.at("Promise 31", "n items of a SHEET from i on come to another one (or the same) from j on, as if all were taken ahead: n.");
+        b.at("Promise 31", "n items of a SHEET from i on come to another one (or the same) from j on, as if all were taken"
+            + " ahead: n.");
         for (int lane = 0; lane < 4; lane++) {
             String given = row(0, lane, 1, 2, 3, 4, 5) + row(1, lane, 9, 9, 9);
             b.run(given, in(lane, "copy(0,2,1,0,3)=3 copy(0,0,0,0,5)=5 copy(1,0,0,2,3)=3 copy(0,0,0,1,4)=4 copy(0,5,1,3,0)=0"));
@@ -214,10 +217,12 @@ public final class BoundsOfSheetsTest {
 
         b.at("Promise 31", "NULL (either);");
         b.refused(NEW, "copy(0,0,0,0,0)=NULL copy(0,0,1,0,-1)=NULL");
-        b.refused(RICH, "copy(3,0,0,0,1)=NULL copy(0,0,3,0,1)=NULL copy(3,0,3,0,1)=NULL copy(3,-1,0,0,1)=NULL copy(0,0,3,9,-1)=NULL");
+        b.refused(RICH, "copy(3,0,0,0,1)=NULL copy(0,0,3,0,1)=NULL copy(3,0,3,0,1)=NULL copy(3,-1,0,0,1)=NULL"
+            + " copy(0,0,3,9,-1)=NULL");
 
         b.at("Promise 31", "CAST: of unlike LANES;");
-        b.refused(RICH, "copy(0,0,1,0,1)=CAST copy(1,0,2,0,1)=CAST copy(2,0,0,0,0)=CAST copy(0,-1,1,0,1)=CAST copy(0,0,2,0,-1)=CAST");
+        b.refused(RICH, "copy(0,0,1,0,1)=CAST copy(1,0,2,0,1)=CAST copy(2,0,0,0,0)=CAST copy(0,-1,1,0,1)=CAST"
+            + " copy(0,0,2,0,-1)=CAST");
         b.refused("sheet(0,2,3) sheet(1,3,3)", "copy(0,0,1,0,1)=CAST copy(1,0,0,0,3)=CAST");
 
         b.at("Promise 31", "INDEX (n below 0, too; of n 0, too, if i or j is below 0 or above how many there are).");

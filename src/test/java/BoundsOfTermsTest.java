@@ -218,6 +218,7 @@ public final class BoundsOfTermsTest {
         b.run("book(1) book(31) ahead(1,0)", "best(3)=10 best(4)=5");
         // Behind ab: abc and d bring one each, abc meets two AGAIN.
         b.run("book(3) book(8) book(7) ahead(0,1) ahead(0,2)", "best(3)=21");
+        b.run("book(3) book(7) book(17) ahead(0,1) ahead(0,2)", "best(3)=12 words(1,17)=7 words(2,7)=17 best(3)=21");
         // None NEW is fewer than one, though it meets fewer AGAIN: behind abc comes a, then abd.
         b.run("book(7) book(11) book(1) ahead(0,1) ahead(0,2)", "best(3)=21");
         // What is LOST is NEW again: behind a, b a would be NEW (SPAN 1), so a comes at once.
@@ -297,6 +298,8 @@ public final class BoundsOfTermsTest {
         b.at("Terms", "A FAULT is the first letter (behind blanks) that can't stand there");
         b.fault("steady 9:a", 7);
         b.fault("steady   9:a", 9);
+        b.fault("steady:a", 6);
+        b.fault("steadyX2:a", 6);
         b.fault("steady2;a", 7);
         b.fault("steady2:1", 8);
         b.fault("steady2:a:", 9);
@@ -364,6 +367,10 @@ public final class BoundsOfTermsTest {
         b.fault("stead2:a", 0);
         b.fault("steadyy2:a", 0);
         b.fault("  stead2:a", 2);
+        b.fault("steadya2:a", 0);
+        b.fault("steadyz2:a", 0);
+        b.fault("xteady2:a", 0);
+        b.fault("steadx2:a", 0);
         b.fault("steadygrowing2:a", 0);
         b.fault("a", 0);
         b.fault("Steady2:a", 0);
@@ -388,9 +395,7 @@ public final class BoundsOfTermsTest {
         b.at("Terms", "UNDONE: the latest of a BOOK told, its WORDS told, lost, of what is AHEAD, PRIOR, SPAN, BOUND, RULE"
             + " told, of a BOOK moved,"
             + " THE ORDER told as BEST or GROWN, of a TEXT, a turn of a DRIFT, is as it had not been");
-        String[] changes = {"book(1)", "words(0,1)", "lose(0)", "ahead(0,1)", "ahead(2,0)", "prior(1)", "tell(0,1)", "tell(1,0)",
-            "tell(2,2)", "move(0,2)", "settle(0)", "settle(1)", "text[growing1:t] read()", "drift(1)"};
-        for (String change : changes) {
+        for (String change : Given.CHANGES) {
             b.same(THREE + " " + change + " undo()", THREE);
             b.run(THREE + " " + change, "count(10)=2");
         }
@@ -409,13 +414,19 @@ public final class BoundsOfTermsTest {
         b.run("book(1) drift(7)", "count(10)=6");
 
         b.at("Terms", ": all but SHEETS, THE TAPE, IMAGES is as ahead of it, whatever was told since.");
-        for (String change : changes) {
+        for (String change : Given.CHANGES) {
             if (change.startsWith("text")) continue;
             String since = " seed(99) sheet(0,2,3) item(0,2,1,4) text[growing1:ab]";
             b.same(THREE + " " + change + since + " undo()", THREE + " sheet(0,2,3) item(0,2,1,4) text[growing1:ab]");
         }
         b.run("book(1) image() undo()", "count(0)=0 restore()=1 count(0)=1 undo()=0 restore()=1 count(0)=1");
         b.run("seed(5) book(1) seed(6) book(2) seed(7)", "undo()=1 seed(0)=6 undo()=0 seed(0)=5");
+    }
+
+    private static String standing(String run) {
+        StringBuilder t = new StringBuilder();
+        Sight.addStanding(t, new Play(run));
+        return t.toString();
     }
 
     /** The turn is as its call, and the draw has gone on twice. */
@@ -446,8 +457,9 @@ public final class BoundsOfTermsTest {
             + " 1103515245 and 12345 more.");
         b.run(NEW, "seed(1)=1 drift(1)=0 seed(0)=377401575");
         long beforeNone = Draws.goBack(0), beforeMost = Draws.goBack(Draws.MANY - 1);
-        for (long seed : new long[] {0, 1, 2, 1 << 30, Integer.MAX_VALUE, Integer.MAX_VALUE - 1, 65535, 65536, beforeNone, beforeMost,
-                Draws.goBack(beforeNone), Draws.goBack(beforeMost)}) {
+        long[] seeds = {0, 1, 2, 1 << 30, Integer.MAX_VALUE, Integer.MAX_VALUE - 1, 65535, 65536, beforeNone, beforeMost,
+            Draws.goBack(beforeNone), Draws.goBack(beforeMost)};
+        for (long seed : seeds) {
             b.run("seed(" + seed + ")", "drift(1) seed(0)=" + Draws.goOn(Draws.goOn(seed)));
             b.due("a way back to " + seed, (int) Draws.goOn(Draws.goBack(seed)), (int) seed);
         }
@@ -487,6 +499,15 @@ public final class BoundsOfTermsTest {
         for (int rule = 0; rule < 3; rule++) {
             String call = "tell(2," + rule + ")";
             taken(rule == 0 ? "tell(2,1)" : NEW, Draws.seedOf(7, call), call);
+        }
+
+        // Each x left over by 11 is as its call, at both ends of what is cut, taken or refused.
+        for (long x = 32767; x >= 0; x -= 11) {
+            long seed = Draws.goBack(x * 65536 + (x % 2 == 0 ? 0 : 65535));
+            String seeded = SEVEN_BY_TEXT + " ahead(0,1) prior(1) seed(" + seed + ") ";
+            String got = standing(seeded + "drift(1)");
+            String want = standing(seeded + Draws.callOf(seed) + " seed(" + Draws.goOn(Draws.goOn(seed)) + ")");
+            b.due("[" + seeded + "drift(1)] is as [" + want + "], not [" + got + "]", got.equals(want) ? 1 : 0, 1);
         }
 
         b.at("Terms", "(Nothing, if that is refused.)");

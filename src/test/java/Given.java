@@ -23,6 +23,10 @@ final class Given {
     /** Seven books by one text, a .. g, none ahead of another. */
     static final String SEVEN_BY_TEXT = "text[steady2:a,b,c,d,e,f,g] read() seed(7)";
 
+    /** Behind THREE each way to change what may be undone. */
+    static final String[] CHANGES = {"book(1)", "words(0,1)", "lose(0)", "lose(2)", "ahead(0,1)", "ahead(2,0)", "prior(1)",
+        "tell(0,1)", "tell(1,0)", "tell(2,2)", "move(0,2)", "move(2,0)", "settle(0)", "settle(1)", "text[growing1:t] read()", "drift(1)"};
+
     private Given() { }
 
     static String times(int n, String run) {

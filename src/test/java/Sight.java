@@ -8,12 +8,16 @@ import java.util.Map;
 final class Sight {
     private static final Map<String, String> KNOWN = new HashMap<>();
 
+    private static final String[] ASKED = {"many(0)", "many(1)", "fit(0)", "fit(3)", "best(0)", "best(1)", "best(2)", "best(3)",
+        "best(4)", "best(5)", "count(6)", "count(7)", "count(8)", "count(9)", "kept(0,3,0)", "kept(0,3,1)"};
+
     private Sight() { }
 
     static String of(String run) {
         String known = KNOWN.get(run);
         if (known == null) {
-            known = now(run) + "| image " + image(run) + "| tape " + tape(run) + "| sheets " + sheets(run);
+            known = "now " + now(run) + "| asked " + asked(run) + "| image " + image(run) + "| tape " + tape(run)
+                + "| sheets " + sheets(run);
             KNOWN.put(run, known);
         }
         return known;
@@ -23,6 +27,17 @@ final class Sight {
     private static String now(String run) {
         StringBuilder t = new StringBuilder();
         addPast(t, new Play(run));
+        return t.toString();
+    }
+
+    /** What is reckoned from what stands. */
+    private static String asked(String run) {
+        StringBuilder t = new StringBuilder();
+        Play p = new Play(run);
+        for (String call : ASKED) t.append(p.make(call)).append(' ');
+        for (int k = 0; k < 60; k++) t.append((char) Math.max(' ', p.make("letter(" + k + ")")));
+        for (int what = 0; what < 7; what++) t.append(p.make("place(3," + what + ")")).append(' ');
+        for (int what = 0; what < 5; what++) t.append(p.make("word(2," + what + ")")).append(' ');
         return t.toString();
     }
 
