@@ -266,7 +266,7 @@ public final class ReadingStages {
         return 1;
     }
 
-    // ---- sheets
+    // ---- sheets 0 .. 3: nothing (at first), or a row of a LANE: 0 bytes, 1 shorts, 2 ints, 3 longs, of 0 to 24 items
 
     public int seen(int sheet, int lane, int i) {
         int fault = faultOfRow(sheet, lane, i, now.n);

@@ -5,6 +5,7 @@ public final class BoundsOfTermsTest {
     private static final Bounds b = new Bounds();
 
     public static void main(String[] args) {
+        whatItIs();
         use();
         answersBelow0();
         whatThereIs();
@@ -20,7 +21,49 @@ public final class BoundsOfTermsTest {
         undone();
         drift();
         sheets();
-        b.close("Terms");
+        b.close("What it is", "Terms");
+    }
+
+    private static void whatItIs() {
+        b.at("What it is", "Reading in stages: books of words put in an order, so that each brings few new words and those that are"
+            + " known are met again in time, before they are lost;");
+        // abc, a, ab: a, ab, abc bring one each, and none is lost; as they came three at once.
+        b.run("book(7) book(1) book(3)", "count(6)=3 best(0)=120 best(1)=1 best(2)=0 settle(0)=120 count(6)=1 count(7)=0");
+
+        b.at("What it is", "by rules that let them last longer the more often they are met;");
+        b.run("book(1) book(1) book(2) book(2) tell(0,1)", "place(2,5)=1 tell(2,1)=0 place(2,5)=0 place(3,5)=1");
+        b.run(Given.times(3, "book(1)") + Given.times(4, "book(2)") + "tell(0,1)", "place(3,5)=1 tell(2,1)=0 place(3,5)=0"
+            + " place(5,5)=1 tell(2,2)=1 place(5,5)=0 place(6,5)=1");
+
+        b.at("What it is", "what each place of an order brings, what becomes of each word;");
+        b.run("book(3) book(1) book(4) book(2)", "place(0,1)=2 place(1,2)=1 place(2,3)=1 place(3,6)=6 word(1,2)=2 word(1,3)=1"
+            + " word(0,1)=0");
+
+        b.at("What it is", "orders in which some books must come ahead of others, all that fit, the best one, one that is put"
+            + " together book by book;");
+        // ab, c, abd, d; 2 ahead of 1 and 0: 2 brings ab and d, or d behind 3.
+        b.run("book(3) book(4) book(11) book(8) ahead(2,1) ahead(2,0) tell(1,2)", "many(0)=8 many(1)=2 fit(0)=3201 fit(1)=3210"
+            + " fit(2)=NONE best(0)=3201 best(1)=2 best(3)=3201");
+
+        b.at("What it is", "a word kept if books are missed;");
+        b.run("book(1) book(1)", "kept(0,5,0)=3 kept(0,5,1)=4");
+
+        b.at("What it is", "orders by what they bring;");
+        b.run("book(1) book(3) sheet(0,0,2) item(0,0,0,1) item(0,0,1,1)", "seen(0,0,0)=1 item(0,0,0,2)=1 seen(0,0,0)=0"
+            + " item(0,0,1,0)=1 seen(0,0,0)=1");
+
+        b.at("What it is", "a note of it all;");
+        b.note("book(3) book(1) book(4) book(2)", "0+2 1+0 2+1-1 3+1-1");
+
+        b.at("What it is", "books, rules told, by texts, by draws, undone;");
+        b.run(NEW, "book(1)=0 tell(2,1)=0 text[doubling3:a,b] read()=2 drift(1) undo()=3 count(0)=2 count(4)=2 undo()=2 count(0)=1"
+            + " count(4)=1 undo()=1 count(4)=0 undo()=0 count(0)=0 undo()=NONE");
+
+        b.at("What it is", "images;");
+        b.run("book(1) image() lose(0)", "count(0)=0 restore()=1 count(0)=1");
+
+        b.at("What it is", "sheets that may be missing.");
+        b.refused("book(1)", "seen(0,0,0)=NULL film(1,1,0)=NULL drop(2)=NULL item(3,3,0,0)=NULL copy(0,0,1,0,0)=NULL");
     }
 
     private static void use() {

@@ -7,6 +7,8 @@ import java.nio.file.Path;
 import java.util.ArrayList;
 import java.util.Arrays;
 import java.util.List;
+import java.util.Map;
+import java.util.TreeMap;
 import java.util.TreeSet;
 import java.util.regex.Matcher;
 import java.util.regex.Pattern;
@@ -22,6 +24,7 @@ public final class LanguageTest {
         names();
         sizes();
         text();
+        bodies();
         d.close();
     }
 
@@ -151,6 +154,64 @@ public final class LanguageTest {
             if (c > 126) {
                 d.holds("the sign " + (int) c + " is plain", false);
             }
+        }
+    }
+
+    /** A method or constructor of the source: those of one name are taken as one. */
+    private record Body(String name, boolean isConstructor, String text) { }
+
+    private static List<Body> bodiesOf(String code) {
+        List<Body> bodies = new ArrayList<>();
+        Matcher m = Pattern.compile("(?m)^( {4}| {8})((?:\\w+(?:\\[\\])* )*)(\\w+)\\([^)]*\\) \\{$").matcher(code);
+        while (m.find()) {
+            int end = code.indexOf("\n" + m.group(1) + "}\n", m.end());
+            boolean isConstructor = Character.isUpperCase(m.group(3).charAt(0));
+            bodies.add(new Body(m.group(3), isConstructor, code.substring(m.end(), end)));
+        }
+        return bodies;
+    }
+
+    /** How many calls stand open at once below a name, itself counted; the one recursion is counted once. */
+    private static int depth(String name, Map<String, TreeSet<String>> calls, List<String> open) {
+        d.holds(name + " is not called by way of " + open, !open.contains(name));
+        if (open.contains(name)) return 0;
+        open.add(name);
+        int deepest = 0;
+        for (String next : calls.get(name)) {
+            if (!next.equals(name)) deepest = Math.max(deepest, depth(next, calls, open));
+        }
+        open.remove(name);
+        return deepest + 1;
+    }
+
+    private static void bodies() throws Exception {
+        String source = Files.readString(Path.of("src/main/java/ReadingStages.java"));
+        List<Body> bodies = bodiesOf(source.replaceAll("(?s)/\\*.*?\\*/", "").replaceAll("//[^\n]*", ""));
+        int declared = 0;
+        for (Class<?> c : classes()) {
+            for (Method m : c.getDeclaredMethods()) declared += m.isSynthetic() ? 0 : 1;
+        }
+        Map<String, TreeSet<String>> calls = new TreeMap<>();
+        for (Body body : bodies) {
+            declared -= body.isConstructor ? 0 : 1;
+            calls.put(body.name, new TreeSet<>());
+        }
+        d.part("rules 8, 9, 11, 12");
+        d.due("methods that were not found in the source", declared, 0);
+        for (Body body : bodies) {
+            d.holds(body.name + " has at most sixty lines", body.text.split("\n").length <= 60);
+            d.holds(body.name + " makes nothing", body.isConstructor || !body.text.contains("new "));
+            d.holds(body.name + " has no loop without a bound", !body.text.matches("(?s).*\\b(while \\(true|for \\(;;|do \\{).*"));
+            Matcher m = Pattern.compile("\\b(\\w+)\\(").matcher(body.text);
+            while (m.find()) {
+                if (calls.containsKey(m.group(1))) calls.get(body.name).add(m.group(1));
+            }
+            boolean isOne = body.name.equals("goThrough") || body.name.equals("takeFrom");
+            d.holds(body.name + " does not call itself", isOne || !calls.get(body.name).contains(body.name));
+        }
+        for (String name : calls.keySet()) {
+            int depth = depth(name, calls, new ArrayList<>());
+            d.holds(name + " goes " + depth + " calls deep, eight at most", depth <= 8);
         }
     }
 }
